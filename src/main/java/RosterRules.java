@@ -432,7 +432,7 @@ public final class RosterRules {
                 i++;
             }
             end = i + 1;
-            return tape.byteAt(i) == '"' && i - begin - 1 <= LONGEST_PATTERN;
+            return i < tape.length && tape.bytes[i] == '"' && i - begin - 1 <= LONGEST_PATTERN;
         }
 
         boolean spells(String name) {
