@@ -305,7 +305,7 @@ public final class RosterRules {
     }
 
     private void keepCell(int p, int day, int letter) {
-        history.add(p, day, roster.letterOf(p, day));
+        history.keep(p, day, roster.letterOf(p, day));
         roster.setCell(p, day, letter);
     }
 
@@ -1071,7 +1071,7 @@ public final class RosterRules {
                 case Law.NEVER:
                     return matches(law.positions, p);
                 case Law.WHOLE:
-                    return isWord(law.positions, p) ? 0 : 1;
+                    return noWord(law.positions, p);
                 default:
                     return 0;
             }
@@ -1082,14 +1082,18 @@ public final class RosterRules {
             switch (law.sort) {
                 case Law.SKILL:
                     return unskilled(p, day, day);
+                case Law.REST:
+                    return shortRests(law.low, p);
                 case Law.HOURS:
                     return hoursAmiss(law, p, Math.max(0, day - law.span + 1), Math.min(day, roster.days - law.span));
+                case Law.NEVER:
+                    return matches(law.positions, p);
+                case Law.WHOLE:
+                    return noWord(law.positions, p);
                 case Law.FAIR:
                     return unfairness(law.letter);
-                case Law.COVER:
-                    return coverAmiss(law, day);
                 default:
-                    return ofPerson(law, p);
+                    return coverAmiss(law, day);
             }
         }
 
@@ -1163,7 +1167,7 @@ public final class RosterRules {
             return found;
         }
 
-        private boolean isWord(Positions pattern, int p) {
+        private long noWord(Positions pattern, int p) {
             int[] row = roster.rows[p];
             int ahead = pattern.first;
             int set = 0;
@@ -1171,7 +1175,7 @@ public final class RosterRules {
                 set = ahead & pattern.takers[row[i]];
                 ahead = pattern.after(set);
             }
-            return (set & pattern.last) != 0;
+            return (set & pattern.last) != 0 ? 0 : 1;
         }
     }
 
@@ -1185,7 +1189,7 @@ public final class RosterRules {
         private int newest;
         private int kept;
 
-        void add(int p, int day, int letter) {
+        void keep(int p, int day, int letter) {
             newest = (newest + 1) % MOST;
             people[newest] = p;
             days[newest] = day;

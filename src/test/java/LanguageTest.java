@@ -3,6 +3,9 @@ import java.lang.reflect.Modifier;
 import java.nio.file.Files;
 import java.nio.file.Path;
 import java.util.Arrays;
+import java.util.Map;
+import java.util.Set;
+import java.util.TreeMap;
 import java.util.TreeSet;
 import java.util.regex.Matcher;
 import java.util.regex.Pattern;
@@ -21,7 +24,9 @@ public final class LanguageTest {
     public static void main(String[] args) throws Exception {
         face();
         nested();
-        source(Files.readString(Path.of("src/main/java/RosterRules.java")));
+        String text = Files.readString(Path.of("src/main/java/RosterRules.java"));
+        source(text);
+        callsGoEightDeep(text);
         Check.end();
     }
 
@@ -84,5 +89,35 @@ public final class LanguageTest {
                 begin = 0;
             }
         }
+    }
+
+    /** By the names of methods alone, so that it may see more calls than there are, but none fewer. */
+    private static void callsGoEightDeep(String text) {
+        Map<String, Set<String>> calls = new TreeMap<>();
+        Matcher methods = Pattern.compile("(?ms)^( {4}| {8})(?:(?:public|private|static) )*[\\w\\[\\]]+ (\\w+)\\([^)]*\\) \\{$(.*?)^\\1\\}$")
+            .matcher(text);
+        while (methods.find()) {
+            Set<String> called = calls.computeIfAbsent(methods.group(2), name -> new TreeSet<>());
+            Matcher names = Pattern.compile("(?<!new )\\b(\\w+)\\(").matcher(methods.group(3));
+            while (names.find()) {
+                called.add(names.group(1));
+            }
+        }
+        Check.holds("many methods are seen", calls.size() > 100);
+        for (String name : calls.keySet()) {
+            int depth = depth(calls, name, 1);
+            Check.holds("calls below " + name + " go " + depth + " deep", depth <= 8);
+        }
+    }
+
+    private static int depth(Map<String, Set<String>> calls, String name, int depth) {
+        int deepest = depth;
+        for (String called : calls.getOrDefault(name, Set.of())) {
+            // what calls itself would go on for ever
+            if (depth < 12 && (calls.containsKey(called) || called.equals("max") || called.equals("min"))) {
+                deepest = Math.max(deepest, depth(calls, called, depth + 1));
+            }
+        }
+        return deepest;
     }
 }

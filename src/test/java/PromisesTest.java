@@ -1,8 +1,8 @@
 /** Each promise of the document by itself: ordinary inputs, the edges it names, and wrong inputs. */
 public final class PromisesTest {
-    private static final int BAD = -1, NO = -2, FULL = -3;
-    private static final int LOW = Integer.MIN_VALUE, HIGH = Integer.MAX_VALUE;
-    private static final long NO_SUCH = 1L << 62;
+    private static final int BAD = Check.BAD, NO = Check.NO, FULL = Check.FULL;
+    private static final int LOW = Check.LOW, HIGH = Check.HIGH;
+    private static final long NO_SUCH = Check.NO_SUCH;
 
     public static void main(String[] args) {
         newObject();
@@ -47,21 +47,12 @@ public final class PromisesTest {
         return Check.with(people, days, text);
     }
 
-    /** A text with this fault at this place; the law from before stays. */
     private static void fault(String text, int number, int place) {
-        RosterRules x = with(4, 14, "skill 7;");
-        due("read of " + text, Check.read(x, text), -10 - number);
-        due("place in " + text, x.place(), place);
-        due("tape behind " + text, x.count(1), 0);
-        due("laws behind " + text, x.count(0), 1);
-        due("weight behind " + text, x.law(0, 1), 7);
+        Check.fault(text, number, place);
     }
 
     private static void fine(String text, int laws) {
-        RosterRules x = with(4, 14, "skill 7;");
-        due("read of " + text, Check.read(x, text), laws);
-        due("place in " + text, x.place(), NO);
-        due("laws of " + text, x.count(0), laws);
+        Check.fine(text, laws);
     }
 
     private static void newObject() {
