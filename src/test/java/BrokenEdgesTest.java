@@ -176,7 +176,7 @@ public final class BrokenEdgesTest {
     }
 
     private static void hoursOfEachWindow() {
-        Check.sentence("of each person and each N days one behind the other: by how many .. together");
+        Check.sentence("by how many the MINUTES of their shifts are below A or above B, together");
         for (int n = 1; n <= 5; n++) {
             RosterRules x = Check.with(1, 5, "hours 0 0 " + n + " 1;hours 1 99999 " + n + " 0;");
             inAll("windows of " + n + " days", x, 1, 6 - n);
@@ -243,7 +243,7 @@ public final class BrokenEdgesTest {
     }
 
     private static void neverUpToADay() {
-        Check.sentence("never: each person and day up to which .. : 1");
+        Check.sentence("never: each person and day up to which");
         RosterRules x = Check.with(1, 4, "never \"a+\" 1;never \"a|aa|aaa\" 1;never \"a.*\" 1;never \"ab\" 1;");
         Check.row(x, 0, "aaaa");
         inAll("each day once, whatever it begins with", x, 0, 4);
@@ -287,7 +287,7 @@ public final class BrokenEdgesTest {
     }
 
     private static void fairOfOneAlone() {
-        Check.sentence("fair: the most times that a person has the shift, less the least times that one has: of one person alone");
+        Check.sentence("less the least times that one has");
         RosterRules x = Check.with(1, 4, "fair a 1;");
         inAll("none", x, 0, 0);
         for (int day = 0; day < 4; day++) {
@@ -340,7 +340,7 @@ public final class BrokenEdgesTest {
     }
 
     private static void coverOfNoneAndAll() {
-        Check.sentence("(of cover 0 .. 8): those who have the shift are below A or above B");
+        Check.sentence("by how many those who have the shift are below A or above B");
         RosterRules x = Check.with(8, 1, "cover a 0 0 1;cover a 8 8 1;cover a 0 8 1;");
         for (int p = 0; p <= 8; p++) {
             inAll("0 .. 0 of " + p, x, 0, p);

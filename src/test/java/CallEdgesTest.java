@@ -7,10 +7,12 @@ public final class CallEdgesTest {
         nearestNumbers();
         allAtFirst();
         shiftsAtFirst();
+        peopleAtFirst();
         oneToEightBytes();
         lowestFirst();
         fullAt1500();
         inPlaceOfAll();
+        nothingOfFormerPatterns();
         theyStayThen();
         placeOfLatest();
         shiftEnds();
@@ -82,8 +84,8 @@ public final class CallEdgesTest {
     }
 
     private static void shiftsAtFirst() {
-        Check.sentence("480, 480 and 0 at first, all; SKILLS (all of 0 .. 9 at first) and a PAST (OFF at first)");
-        RosterRules x = Check.with(1, 2, "rest 960 1;rest 961 1;skill 1;hours 480 480 1 1;");
+        Check.sentence("480, 480 and 0 at first, all");
+        RosterRules x = Check.with(1, 2, "rest 960 1;rest 961 1;");
         for (int k = 0; k <= 7; k++) {
             x.put(0, 0, k);
             due("minutes of shift " + k, x.minutes(0, 0, 0), 480);
@@ -103,13 +105,24 @@ public final class CallEdgesTest {
             due("skill 0 of shift " + k, y.broken(0, 0), 0);
             due("none but 0 of shift " + k, y.broken(0, 1), 1);
         }
-        RosterRules z = Check.with(8, 1, "skill 1;");
+    }
+
+    private static void peopleAtFirst() {
+        Check.sentence("A person has SKILLS (all of 0 .. 9 at first)");
         for (int p = 0; p < 8; p++) {
-            z.put(p, 0, p);
-            z.shift(p, 0, 1, p + 1);
-            due("skill " + (p + 1) + " of person " + p, z.broken(0, p), 0);
+            RosterRules x = Check.with(8, 1, "skill 1;");
+            x.put(p, 0, p);
+            for (int skill = 0; skill <= 9; skill++) {
+                x.shift(p, 0, 1, skill);
+                due("skill " + skill + " of person " + p, x.broken(0, p), 0);
+            }
+        }
+        Check.sentence("what was on each of the 7 days before day 0 (OFF at first)");
+        RosterRules y = Check.with(8, 1, "never \"-{8,8}\" 1;");
+        for (int p = 0; p < 8; p++) {
+            due("OFF all the days of " + p, y.broken(0, p), 1);
             for (int i = 1; i <= 7; i++) {
-                due("PAST of " + p, z.past(p, i, -1), -1);
+                due("PAST of " + p, y.past(p, i, -1), -1);
             }
         }
     }
@@ -194,6 +207,23 @@ public final class CallEdgesTest {
         due("states", x.law(0, 3), NO);
         due("none", x.read(), 0);
         due("laws", x.count(0), 0);
+    }
+
+    private static void nothingOfFormerPatterns() {
+        Check.sentence("THE TAPE is read as laws, in place of all");
+        String[] patterns = {"-", "(.a)*", "a", "a*", "ab", "abcdefgh-a", "[^-]", "h", ".*a.{3,3}", "b", ".{1,9}", "aa|bb"};
+        RosterRules x = new RosterRules(2, 2);
+        for (int i = 0; i < 2 * patterns.length; i++) {
+            String text = "never \"" + patterns[i % patterns.length] + "\" 1;";
+            RosterRules fresh = Check.with(2, 2, text);
+            due(text, Check.read(x, text), 1);
+            for (int n = 0; n <= 4; n++) {
+                due("words of " + n + " of " + text, x.words(0, n), fresh.words(0, n));
+            }
+            due("states of " + text, x.law(0, 3), fresh.law(0, 3));
+            due("broken of " + text, x.broken(0, -1), fresh.broken(0, -1));
+            due("PLACES of " + text, x.law(0, 4), fresh.law(0, 4));
+        }
     }
 
     private static void theyStayThen() {
@@ -376,7 +406,7 @@ public final class CallEdgesTest {
     }
 
     private static void wishEnds() {
-        Check.sentence("weight 0 .. 1000; shift -1: OFF");
+        Check.sentence("weight 0 .. 1000 (0: none any more); shift -1: OFF");
         for (int shift : new int[] {-1, 0, 7}) {
             for (int weight : new int[] {0, 1, 999, 1000}) {
                 RosterRules x = new RosterRules(8, 21);
@@ -574,7 +604,7 @@ public final class CallEdgesTest {
     }
 
     private static void descendUpToThree() {
-        Check.sentence("Up to n steps (0 .. 3): how many steps were done");
+        Check.sentence("Up to n steps (0 .. 3)");
         for (int n = 0; n <= 3; n++) {
             for (int possible = 1; possible <= 4; possible++) {
                 RosterRules x = Check.with(1, possible, "cover a 1 1 1;");
@@ -706,7 +736,7 @@ public final class CallEdgesTest {
     }
 
     private static void countsOfNone() {
-        Check.sentence("How many: what = 0 laws, 1 bytes of THE TAPE, 2 CELLS that are not OFF, 3 WISHES, 4 puts: none");
+        Check.sentence("How many: what = 0 laws, 1 bytes of THE TAPE, 2 CELLS that are not OFF, 3 WISHES, 4 puts that may be undone. BAD");
         RosterRules x = Check.with(2, 2, "skill 1;fair a 1;");
         x.feed(3, 0);
         x.put(1, 1, 3);
@@ -728,7 +758,7 @@ public final class CallEdgesTest {
     }
 
     private static void countsOfMost() {
-        Check.sentence("How many: what = 0 laws, 1 bytes of THE TAPE, 2 CELLS that are not OFF, 3 WISHES, 4 puts: most");
+        Check.sentence("How many: what = 0 laws, 1 bytes of THE TAPE, 2 CELLS that are not OFF, 3 WISHES, 4 puts that may be undone");
         RosterRules x = Check.with(8, 21, "skill 1;".repeat(16));
         due("laws", x.count(0), 16);
         Check.feed(x, " ".repeat(1500));

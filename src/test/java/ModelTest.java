@@ -2,12 +2,16 @@ import java.util.Random;
 
 /** Runs of calls, the same ones in each run of the test, on the program and on the model. */
 public final class ModelTest {
-    private static final int RUNS = 400;
+    private static final int RUNS = 600;
+    private static final int PATTERNS = 8;
+    /** What an object answers later is free. */
+    private static final int MOST_CALLS = 512;
 
     private final Random random;
     private final RosterRules x;
     private final Model model;
     private final String name;
+    private int calls;
 
     private ModelTest(int run) {
         random = new Random(run);
@@ -23,17 +27,38 @@ public final class ModelTest {
         int from = args.length > 1 ? Integer.parseInt(args[1]) : 0;
         for (int run = from; run < from + runs; run++) {
             new ModelTest(run).run();
+            ModelTest patterns = new ModelTest(run);
+            for (int i = 0; i < PATTERNS; i++) {
+                patterns.compareAutomata();
+            }
         }
         Check.end();
     }
 
     private void run() {
-        int left = 512;
-        while (left > 0) {
-            left -= tell();
-            for (int i = 0; i < 40 && left > 0; i++) {
+        // the dearest call() makes three
+        while (calls <= MOST_CALLS - 3 && tell()) {
+            for (int i = 0; i < 40 && calls <= MOST_CALLS - 3; i++) {
                 call();
-                left--;
+            }
+        }
+    }
+
+    /** Every entry of an automaton, on objects of their own as there may be many. */
+    private void compareAutomata() {
+        String text = "never \"" + pattern() + "\" 1;";
+        Model asked = new Model(1, 1);
+        for (char c : text.toCharArray()) {
+            asked.feed(1, c);
+        }
+        int states = asked.read() == 1 ? asked.law(0, 3) : 0;
+        RosterRules fresh = null;
+        for (int s = 0; s < states; s++) {
+            if (s % 40 == 0) {
+                fresh = Check.with(1, 1, text);
+            }
+            for (int letter = 0; letter <= 9; letter++) {
+                Check.due("state(0, " + s + ", " + letter + ") of " + text, fresh.state(0, s, letter), asked.state(0, s, letter));
             }
         }
     }
@@ -57,12 +82,14 @@ public final class ModelTest {
     }
 
     private void due(String call, long got, long want) {
+        calls++;
         Check.due(name + call, got, want);
     }
 
     // ---- texts
 
-    private int tell() {
+    /** Whether there were calls enough left to tell a text. */
+    private boolean tell() {
         StringBuilder text = new StringBuilder();
         int laws = pick(12) == 0 ? 15 + pick(3) : pick(7);
         for (int i = 0; i < laws; i++) {
@@ -77,9 +104,11 @@ public final class ModelTest {
                 default -> text.insert(i, (char) (32 + pick(95)));
             }
         }
-        int calls = 1;
         String whole = text.toString();
-        for (int i = 0; i < whole.length(); i += 8, calls++) {
+        if (calls + whole.length() / 8 + 3 > MOST_CALLS) {
+            return false;
+        }
+        for (int i = 0; i < whole.length(); i += 8) {
             long bytes = random.nextLong();
             int n = Math.min(8, whole.length() - i);
             for (int k = 0; k < n; k++) {
@@ -89,7 +118,7 @@ public final class ModelTest {
         }
         due("read of " + whole, x.read(), model.read());
         due("place in " + whole, x.place(), model.place());
-        return calls;
+        return true;
     }
 
     private String number(int high) {
@@ -265,10 +294,5 @@ public final class ModelTest {
         int state = near(0, Math.max(1, states) - 1);
         int letter = near(0, 9);
         due("state(" + k + ", " + state + ", " + letter + ")", x.state(k, state, letter), model.state(k, state, letter));
-        for (int s = 0; s < states; s++) {
-            for (int l = 0; l <= 9; l++) {
-                due("state(" + k + ", " + s + ", " + l + ")", x.state(k, s, l), model.state(k, s, l));
-            }
-        }
     }
 }

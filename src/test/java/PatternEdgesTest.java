@@ -48,7 +48,7 @@ public final class PatternEdgesTest {
     // ---- promise 18
 
     private static void lawsAsked() {
-        Check.sentence("what = 0 its sort (0 skill .. 6 cover), 1 W");
+        Check.sentence("what = 0 its sort (0 skill, 1 rest, 2 hours, 3 never, 4 whole, 5 fair, 6 cover), 1 W");
         RosterRules x = Check.with(2, 2, SORTS);
         for (int k = 0; k < 7; k++) {
             due("sort", x.law(k, 0), k);
@@ -90,7 +90,7 @@ public final class PatternEdgesTest {
     }
 
     private static void lawThatIsNotThere() {
-        Check.sentence("Of law k .. BAD");
+        Check.sentence("BAD: an argument is none of those told");
         for (int laws : new int[] {0, 1, 7, 16}) {
             RosterRules x = Check.with(2, 2, "never \"a\" 1;".repeat(laws));
             for (int k : new int[] {laws, laws + 1, 16, 17, -1, LOW, HIGH}) {
@@ -144,10 +144,18 @@ public final class PatternEdgesTest {
         lengths("(a{1,2}){2,2}", 0, 0, 1, 1, 1, 0);
         lengths("(a*)*", 1, 1, 1, 1);
         lengths("(a?)+", 1, 1, 1, 1);
+        for (String before : new String[] {"b", "b(", "(b)("}) {
+            String behind = before.endsWith("(") ? ")" : "";
+            lengths(before + "a*" + behind, 0, 1, 1, 1, 1);
+            lengths(before + "a+" + behind, 0, 0, 1, 1, 1);
+            lengths(before + "a?" + behind, 0, 1, 1, 0, 0);
+            lengths(before + "a{1,2}" + behind, 0, 0, 1, 1, 0);
+            lengths(before + "ac" + behind, 0, 0, 0, 1, 0);
+        }
     }
 
     private static void wordsOfSigns() {
-        Check.sentence("a LETTER itself; . any one; [ ] any one of these, or with ^ any other one; | of either");
+        Check.sentence("a LETTER itself; . any one; [ ] any one of these, or with ^ any other one");
         for (int letter = 0; letter < 9; letter++) {
             String c = LETTERS.substring(letter, letter + 1);
             RosterRules x = of(c, "[" + c + "]", "[^" + c + "]", ".");
@@ -166,6 +174,8 @@ public final class PatternEdgesTest {
         lengths("a(b|c)d", 0, 0, 0, 2, 0);
         lengths("ab|cd", 0, 0, 2, 0, 0);
         lengths("(ab|c)*", 1, 1, 2, 3, 5, 8);
+        lengths("a(bc){2,2}", 0, 0, 0, 0, 0, 1, 0);
+        lengths("(a|b)(c|d){2,3}", 0, 0, 0, 8, 16, 0);
         lengths("ab*", 0, 1, 1, 1);
         lengths("(ab)*", 1, 0, 1, 0, 1);
     }
@@ -204,7 +214,7 @@ public final class PatternEdgesTest {
     }
 
     private static void numberedAsComeTo() {
-        Check.sentence("begins in state 0 .. numbered as they are come to: from state 0 on, of each one by the LETTERS in their order - a b .. h");
+        Check.sentence("numbered as they are come to: from state 0 on, of each one by the LETTERS in their order - a b .. h");
         RosterRules x = of("h|-a", "ba|ab", "aaa", "-", "h");
         int[][] first = {{1, 2, 2, 2, 2, 2, 2, 2, 3, 0}, {2, 3, 2, 2, 2, 2, 2, 2, 2, 0}, {2, 2, 2, 2, 2, 2, 2, 2, 2, 0},
             {2, 2, 2, 2, 2, 2, 2, 2, 2, 1}};
@@ -246,7 +256,7 @@ public final class PatternEdgesTest {
     }
 
     private static void stateThatIsNotThere() {
-        Check.sentence("the state to which a LETTER leads from one .. BAD");
+        Check.sentence("the state to which a LETTER (0 - , 1 a .. 8 h) leads from one");
         RosterRules x = of(".*", "a*", "a", ".*a.{8,8}");
         int[] states = {1, 2, 3, 512};
         for (int k = 0; k < states.length; k++) {
@@ -265,7 +275,7 @@ public final class PatternEdgesTest {
     }
 
     private static void noPattern() {
-        Check.sentence("NO: it has no PATTERN .. of both BAD first");
+        Check.sentence("NO: it has no PATTERN");
         RosterRules x = Check.with(2, 2, SORTS);
         for (int k : new int[] {0, 1, 2, 5, 6}) {
             due("state of " + k, x.state(k, 0, 0), NO);
@@ -296,10 +306,16 @@ public final class PatternEdgesTest {
                 due(a + " and " + b, x.alike(a, b), kinds[a] == kinds[b] ? 1 : 0);
             }
         }
+        RosterRules y = of("-*[^-].*", ".+", "abcdefgh-a", "abcdefgh-[a]", "abcdefgh-b", ".*a.{8,8}", ".*[a].{8,8}", ".*b.{8,8}");
+        due("as many states, but one way is another", y.alike(0, 1), 0);
+        due("twelve states", y.alike(2, 3), 1);
+        due("twelve states, but one way is another", y.alike(2, 4), 0);
+        due("512 states", y.alike(5, 6), 1);
+        due("512 states, but the ways are others", y.alike(5, 7), 0);
     }
 
     private static void alikeRefused() {
-        Check.sentence("BAD; NO: one has none; of both BAD first");
+        Check.sentence("BAD; NO: one has none");
         RosterRules x = Check.with(2, 2, SORTS);
         for (int k : new int[] {-1, 7, 16, LOW, HIGH}) {
             for (int other : new int[] {0, 3, 4, 6, 7, -1, HIGH}) {
@@ -421,7 +437,7 @@ public final class PatternEdgesTest {
     }
 
     private static void wordRefused() {
-        Check.sentence("word: BAD; of both BAD first");
+        Check.sentence("NO as told; of both BAD first");
         RosterRules x = Check.with(2, 2, SORTS);
         for (int i : new int[] {-1, -2, LOW}) {
             for (int k = 0; k < 7; k++) {

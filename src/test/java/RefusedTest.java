@@ -214,7 +214,7 @@ public final class RefusedTest {
     }
 
     private static void changesNothingByNo() {
-        Check.sentence("NO as told .. What is refused changes nothing");
+        Check.sentence("What is refused changes nothing");
         List<Long> due = allOf(used());
         RosterRules x = used();
         Check.due("law", x.law(0, 3), NO);
@@ -239,7 +239,7 @@ public final class RefusedTest {
     }
 
     private static void askingChangesNothing() {
-        Check.sentence("change: As put(), but nothing changes; so do all that only ask");
+        Check.sentence("As put(), but nothing changes");
         List<Long> due = allOf(used());
         String[] asking = {"at", "change", "best", "broken", "minutes", "law", "state", "alike", "words", "word", "count"};
         for (Call call : CALLS) {

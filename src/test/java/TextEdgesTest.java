@@ -34,6 +34,7 @@ public final class TextEdgesTest {
         tokenThatCannotStand();
         textEnd();
         byteThatCannotStand();
+        bytesOfTimesAndChoices();
         tenPlaces();
         placesAtClosingQuote();
         numbersInRange();
@@ -45,6 +46,7 @@ public final class TextEdgesTest {
         noLetterLeft();
         firstFaultOfTwoLaws();
         firstFaultWithinLaw();
+        faultLeavesNothing();
         Check.end();
     }
 
@@ -113,6 +115,8 @@ public final class TextEdgesTest {
         Check.due("its weight", x.law(0, 1), 7);
         fault("\n".repeat(1493) + "skill 7", 2, 1500);
         fault(" ".repeat(1499) + "@", 1, 1499);
+        fault(" ".repeat(1492) + "never \"a", 1, 1498);
+        fault(" ".repeat(1495) + "skill", 2, 1500);
     }
 
     private static void anyBytes() {
@@ -142,6 +146,18 @@ public final class TextEdgesTest {
         Check.due("a text behind it begins at 0", Check.read(x, " fair a 2;"), 1);
         Check.due("the place of its law", x.law(0, 2), 1);
         Check.due("nothing is left to read", x.read(), 0);
+        nothingOfALongerText("never \"a\" 1;", "never \"a", 1, 6);
+        nothingOfALongerText("never \"a\" 1;", "never \"", 1, 6);
+        nothingOfALongerText("skill 1;", "skill 1", 2, 7);
+        nothingOfALongerText("skill 1;", "skill ", 2, 6);
+        nothingOfALongerText("rest 1 2;", "rest 1", 2, 6);
+        nothingOfALongerText("skill 1;skill 1;", "skill 1;skil", 2, 8);
+    }
+
+    private static void nothingOfALongerText(String longer, String text, int number, int place) {
+        RosterRules x = Check.with(1, 1, longer);
+        Check.due(text + " behind " + longer, Check.read(x, text), -10 - number);
+        Check.due("its place", x.place(), place);
     }
 
     private static void textWithoutLaw() {
@@ -234,7 +250,14 @@ public final class TextEdgesTest {
         fault("never \"\" 1;", 2, 7);
         fault("skill \"" + "*".repeat(40) + "\";", 2, 6);
         fault("skill \"" + "*".repeat(41) + "\";", 1, 6);
-        fine("never \"" + "(".repeat(19) + "a+" + ")".repeat(19) + "\" 1;", 1);
+        RosterRules x = Check.with(1, 1, "never \"" + "(".repeat(19) + "a+" + ")".repeat(19) + "\" 1;never \"a+\" 1;");
+        Check.due("forty bytes have the words of two", x.alike(0, 1), 1);
+        RosterRules y = Check.with(1, 1, "never \"[" + "a".repeat(37) + "b]\" 1;never \"[ab]\" 1;");
+        Check.due("also the last one of forty", y.alike(0, 1), 1);
+        fault("never \"" + "(".repeat(15) + "abcdefgh-a" + ")".repeat(14) + "\" 1;", 2, 46);
+        fault("never \"" + "(".repeat(14) + "abcdefgh-a." + ")".repeat(14) + "\" 1;", 3, 6);
+        fault("never \"" + "(".repeat(39) + "\" 1;", 2, 46);
+        fault("never \"" + "(".repeat(40) + "\" 1;", 2, 47);
     }
 
     private static void bytesOfPatterns() {
@@ -313,8 +336,13 @@ public final class TextEdgesTest {
             }
             fault(text + ";", 2, text.length());
         }
-        fault("skills 1;", 2, 0);
-        fault("skil 1;", 2, 0);
+        for (String[] sort : SORTS) {
+            for (int i = 0; i < sort[0].length(); i++) {
+                fault(sort[0].substring(0, i) + "z" + sort[0].substring(i + 1) + " 1;", 2, 0);
+                fault(sort[0].substring(0, i) + sort[0].substring(i + 1) + " 1;", 2, 0);
+            }
+            fault(sort[0] + "s 1;", 2, 0);
+        }
         fault("fair i 1;", 2, 5);
         fault("fair aa 1;", 2, 5);
         fault("cover i 1 1 1;", 2, 6);
@@ -383,8 +411,34 @@ public final class TextEdgesTest {
         fault("never \"a{10,2}\" 1;", 2, 10);
     }
 
+    private static void bytesOfTimesAndChoices() {
+        Check.sentence("'{' digit ',' digit '}'");
+        for (char c = 33; c <= 126; c++) {
+            boolean digit = c >= '0' && c <= '9';
+            boolean letter = LETTERS.indexOf(c) >= 0;
+            if (c != '"') {
+                fault("never \"a{1,0" + c + "\" 1;", 4, 11);
+                fineOr(digit, "never \"a{" + c + ",9}\" 1;", 2, 9);
+                fineOr(c == ',', "never \"a{1" + c + "9}\" 1;", 2, 10);
+                fineOr(digit && c != '0', "never \"a{1," + c + "}\" 1;", c == '0' ? 4 : 2, 11);
+                fineOr(c == '}', "never \"a{1,9" + c + "\" 1;", 2, 12);
+                fineOr(letter || c == '^', "never \"[" + c + "a]\" 1;", 2, 8);
+                fineOr(letter, "never \"[^" + c + "a]\" 1;", 2, 9);
+                fineOr(letter || c == ']', "never \"[a" + c + (c == ']' ? "" : "]") + "\" 1;", 2, 9);
+            }
+        }
+    }
+
+    private static void fineOr(boolean good, String text, int number, int place) {
+        if (good) {
+            fine(text, 1);
+        } else {
+            fault(text, number, place);
+        }
+    }
+
     private static void tenPlaces() {
-        Check.sentence("3 .. a PATTERN of more than 10 PLACES: each LETTER outside of [ ], . and [ ] is one, within {n,m} m times over");
+        Check.sentence("each LETTER outside of [ ], . and [ ] is one, within {n,m} m times over");
         places("abcdefgh-a", 10);
         places("..........", 10);
         places("[ab][^ab][ab][ab][ab][ab][-][ab]a.", 10);
@@ -398,6 +452,9 @@ public final class TextEdgesTest {
         places("((a{2,2}){1,2}b){1,2}", 10);
         places("(a{1,3}){3,3}b{0,1}", 10);
         places("(((a{1,2}){1,2}){1,2}b)c", 10);
+        places("a(bc){2,2}", 5);
+        places("(ab)(c|d)(e){1,3}", 7);
+        places("(b(cd){1,2}){2,2}", 10);
         String[] more = {"abcdefgh-ab", "...........", "[ab][ab][ab][ab][ab][ab][ab][ab]a.b", "a|b|c|d|e|f|g|h|-|.|a",
             "a{0,9}bc", "a{0,9}b?c*", "(ab){1,5}c", "(ab){0,6}", "(abc){1,4}", "((a{2,2}){1,2}b){1,2}c", "(a{1,3}){4,4}",
             "(a{9,9}){9,9}", "((((a{1,9}){1,9}){1,9}){1,9}){1,9}", "(abcdef){1,2}", "a*b*c*d*e*f*g*h*-*.*a*"};
@@ -539,6 +596,25 @@ public final class TextEdgesTest {
             fault("skill 1;\n" + first.text, first.number, 9 + first.place);
             for (Faulty second : FAULTS) {
                 fault(first.text + second.text, first.number, first.place);
+            }
+        }
+    }
+
+    private static void faultLeavesNothing() {
+        Check.sentence("also with a FAULT");
+        String[] cut = {"never \"(((a\" 1;", "never \"(a|(b\" 1;", "never \"(a{9,9}){9,9}\" 1;", "never \"ab(c*\" 1;", "never \"[^a\" 1;"};
+        String good = "never \"a(bc){2,2}\" 1;never \"abcdefgh-a\" 1;";
+        for (int i = 0; i < cut.length + FAULTS.length; i++) {
+            RosterRules x = new RosterRules(2, 2);
+            String text = i < cut.length ? cut[i] : FAULTS[i - cut.length].text;
+            for (int turn = 0; turn < 3; turn++) {
+                Check.holds("a fault in " + text, Check.read(x, text) <= -11);
+                Check.due("a good text behind " + text, Check.read(x, good), 2);
+                Check.due("no place behind " + text, x.place(), Check.NO);
+                Check.due("the words behind " + text, x.words(0, 5), 1);
+                Check.due("the states behind " + text, x.law(0, 3), 7);
+                Check.due("the states behind " + text, x.law(1, 3), 12);
+                Check.due("the PLACES behind " + text, x.law(1, 4), 10);
             }
         }
     }
