@@ -1,7 +1,7 @@
 import java.nio.charset.StandardCharsets;
 
 /** What the tests of the project share: answers compared and counted, and texts fed. */
-final class Check {
+public final class Check {
     static final int BAD = -1, NO = -2, FULL = -3;
     static final int LOW = Integer.MIN_VALUE, HIGH = Integer.MAX_VALUE;
     static final long NO_SUCH = 1L << 62;
@@ -20,7 +20,7 @@ final class Check {
         sentence = "\"" + words + "\": ";
     }
 
-    static void due(String what, long got, long want) {
+    public static void due(String what, long got, long want) {
         asked++;
         if (got != want) {
             wrong++;
