@@ -1,8 +1,14 @@
+import java.io.IOException;
+import java.io.InputStream;
+import java.lang.reflect.Field;
 import java.lang.reflect.Method;
 import java.lang.reflect.Modifier;
+import java.nio.charset.StandardCharsets;
 import java.nio.file.Files;
 import java.nio.file.Path;
+import java.util.ArrayList;
 import java.util.Arrays;
+import java.util.List;
 import java.util.Map;
 import java.util.Set;
 import java.util.TreeMap;
@@ -20,10 +26,15 @@ public final class LanguageTest {
     private static final String[] FORBIDDEN = {"throw", "throws", "try", "catch", "synchronized", "assert", "import",
         "package", "System", "Thread", "Random", "protected", "record", "native", "transient", "volatile", "goto",
         "Object", "Arrays", "hashCode", "toString", "equals", "null"};
+    private static final Set<String> LIBRARY_CLASSES = Set.of("java/lang/Object", "java/lang/Math", "java/lang/String");
 
     public static void main(String[] args) throws Exception {
         face();
         nested();
+        for (Class<?> c : allClasses()) {
+            constants(c);
+            library(c);
+        }
         String text = Files.readString(Path.of("src/main/java/RosterRules.java"));
         source(text);
         callsGoEightDeep(text);
@@ -65,6 +76,34 @@ public final class LanguageTest {
         }
     }
 
+    private static List<Class<?>> allClasses() {
+        List<Class<?>> all = new ArrayList<>(Arrays.asList(RosterRules.class.getDeclaredClasses()));
+        all.add(RosterRules.class);
+        return all;
+    }
+
+    private static void constants(Class<?> c) {
+        Set<Class<?>> fine = Set.of(int.class, long.class, boolean.class, char.class, String.class);
+        for (Field f : c.getDeclaredFields()) {
+            if (Modifier.isStatic(f.getModifiers())) {
+                Check.holds(f + " is a constant", Modifier.isFinal(f.getModifiers()) && fine.contains(f.getType()));
+            }
+        }
+    }
+
+    /** By the names in the class file; a lambda, or texts joined by +, would need a bootstrap method there. */
+    private static void library(Class<?> c) throws IOException {
+        try (InputStream in = c.getResourceAsStream("/" + c.getName() + ".class")) {
+            Check.holds("there is a file of " + c, in != null);
+            String bytes = in == null ? "" : new String(in.readAllBytes(), StandardCharsets.ISO_8859_1);
+            Check.holds(c + " needs no bootstrap", !bytes.contains("BootstrapMethods"));
+            Matcher names = Pattern.compile("javax?/[\\w/]+").matcher(bytes);
+            while (names.find()) {
+                Check.holds(c + " names " + names.group(), LIBRARY_CLASSES.contains(names.group()));
+            }
+        }
+    }
+
     private static void source(String text) {
         String code = text.replaceAll("(?s)/\\*.*?\\*/", "").replaceAll("//[^\n]*", "")
             .replaceAll("'(\\\\.|[^'])'", "0").replaceAll("\"[^\"\n]*\"", "0");
@@ -72,6 +111,11 @@ public final class LanguageTest {
             Check.holds("no " + word, !Pattern.compile("\\b" + word + "\\b").matcher(code).find());
         }
         Check.holds("no lambda, no method reference", !code.contains("->") && !code.contains("::"));
+        Matcher library = Pattern.compile("\\bMath\\.(\\w+)").matcher(code);
+        while (library.find()) {
+            Check.holds("Math." + library.group(1), library.group(1).equals("max") || library.group(1).equals("min"));
+        }
+        Check.holds("no class within a method", !Pattern.compile("new \\w+\\([^;]*\\)\\s*\\{").matcher(code).find());
         Check.holds("no endless loop", !code.contains("while (true)") && !code.contains("for (;"));
         Matcher statics = Pattern.compile("\\bstatic\\b(?! final)[^\n]*").matcher(code);
         while (statics.find()) {
