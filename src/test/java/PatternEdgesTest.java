@@ -17,6 +17,7 @@ public final class PatternEdgesTest {
         wordsOfSigns();
         completeAutomaton();
         leastAutomaton();
+        statesThatAreNearlyAlike();
         numberedAsComeTo();
         mayEnd();
         stateThatIsNotThere();
@@ -210,6 +211,29 @@ public final class PatternEdgesTest {
         int[] states = {3, 4, 4, 4, 2, 2, 5, 1, 1, 4};
         for (int k = 0; k < states.length; k++) {
             due("states of " + k, x.law(k, 3), states[k]);
+        }
+    }
+
+    /**
+     * Of each of these, found by a search, some states that lead apart by one letter alone, - or h,
+     * or differ only in whether a row may end in them, meet in the table in which the program
+     * looks for equal ones. How many states there are Model says, too.
+     */
+    private static void statesThatAreNearlyAlike() {
+        Check.sentence("THE AUTOMATON of a PATTERN is the least one");
+        String[] patterns = {"(e|.+[-dd-]+.?)?[fa].", "(d?(he?|-)(c*|[fe]*).)|[d]?", ".*[e]-+(-.)*(.?-)[a]((.[g])+)?",
+            ".*([-])[^h]*(.).(([-h]-[^-])?.[chc])", ".*.(([^-]+)-)[h-]+([h]..(.[-f]))?",
+            ".*(.)[^h]+..[^aa]?.((.?)[^h]((.)+))?"};
+        int[] states = {9, 9, 20, 46, 42, 24};
+        RosterRules x = of(patterns);
+        for (int k = 0; k < patterns.length; k++) {
+            due("states of " + patterns[k], x.law(k, 3), states[k]);
+            Model model = new Model(2, 2);
+            for (char c : ("never \"" + patterns[k] + "\" 1;").toCharArray()) {
+                model.feed(1, c);
+            }
+            due("laws of the model", model.read(), 1);
+            due("states of " + patterns[k] + " by the model", model.law(0, 3), states[k]);
         }
     }
 
