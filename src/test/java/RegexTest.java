@@ -18,17 +18,20 @@ public final class RegexTest {
 
     public static void main(String[] args) {
         int runs = args.length > 0 ? Integer.parseInt(args[0]) : 250;
+        int compared = 0;
         for (int run = 0; run < runs; run++) {
-            new RegexTest(run).compare();
+            compared += new RegexTest(run).compare() ? 1 : 0;
         }
+        System.out.println(compared + " of " + runs + " patterns were short and small enough to be compared");
+        Check.holds("half of the patterns are compared", 2 * compared >= runs);
         Check.end();
     }
 
-    private void compare() {
+    private boolean compare() {
         String pattern = alt(0);
         RosterRules x = new RosterRules(1, 1);
         if (pattern.length() > 40 || Check.read(x, "whole \"" + pattern + "\" 1;") != 1 || x.law(0, 3) > MOST_STATES) {
-            return;
+            return false;
         }
         int[][] table = table(x);
         Pattern regex = Pattern.compile(inJava(pattern));
@@ -52,6 +55,7 @@ public final class RegexTest {
             String row = longRow(table);
             Check.due(pattern + " takes " + row, takes(table, row), regex.matcher(row).matches() ? 1 : 0);
         }
+        return true;
     }
 
     private static int[][] table(RosterRules x) {
